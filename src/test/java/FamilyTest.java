@@ -1,18 +1,11 @@
-/** Forks, waits, ends and kills (promises 3, 5 to 10, 12, 15 and 17). */
+/** Forks, waits, ends and kills in ordinary runs (promises 5 to 10, 12, 15 and 17). */
 public final class FamilyTest {
     public static void main(String[] args) {
         forkCopiesAll();
         forkTakesTheSmallestFree();
-        forkWithNobodyFree();
-        bothGoOnBehindTheFork();
-        waitWithoutChildren();
-        waitTakesTheSmallestEnded();
-        waitWithTheSameRegisterTwice();
         waitWaitsForItsOwnChildrenOnly();
         waitIsCountedWhenItIsExecuted();
-        endFreesEndedChildrenAndLeavesTheOthers();
         killInstruction();
-        killRefused();
         killInTheQueue();
         killTheParent();
         Checks.close();
@@ -41,65 +34,6 @@ public final class FamilyTest {
         m.state(1, TeachingKernel.FREE);
     }
 
-    private static void forkWithNobodyFree() {
-        Machine m = new Machine("nobody free").put(Machine.FORK, 1).put(Machine.YIELD).at(10).jump(10);
-        m.spawn(0, 0, 0);
-        for (int p = 1; p < 6; p++) {
-            m.spawn(10, 0, p);
-        }
-        m.run(1, 1).registers(0, 0, -2, 0, 0).spot(0, 2).executed(2);
-        Machine e = new Machine("an ended one is not free").put(Machine.FORK, 1).put(Machine.FORK, 2).put(Machine.YIELD);
-        e.at(10).jump(10).spawn(0, 0, 0);
-        for (int p = 1; p < 5; p++) {
-            e.spawn(10, 0, p);
-        }
-        e.run(1, 1).registers(0, 0, 5, -2, 0).kill(5, 0, true).state(5, TeachingKernel.ENDED);
-        e.spawn(10, 0, TeachingKernel.BAD);
-    }
-
-    private static void bothGoOnBehindTheFork() {
-        Machine m = new Machine("behind the fork").put(Machine.FORK, 0).put(Machine.OUT, 0).put(Machine.END, 0);
-        m.spawn(0, 0, 0).run(1, 1).output(1).state(0, TeachingKernel.FREE).spot(1, 1).parent(1, -1);
-        m.run(80, 1).output(1, -1).executed(5).state(1, TeachingKernel.FREE);
-        Machine l = new Machine("fork at the last spot").at(63).put(Machine.FORK, 0);
-        l.spawn(63, 0, 0).run(1, 1).state(0, TeachingKernel.FREE).spot(1, 64).run(80, 1).executed(3);
-    }
-
-    private static void waitWithoutChildren() {
-        Machine m = new Machine("no children").put(Machine.WAIT, 1, 2).put(Machine.WAIT, 3, 3).put(Machine.YIELD);
-        m.spawn(0, 5, 0).spawn(40, 0, 1).run(1, 1).registers(0, 5, -1, 0, -1).state(0, TeachingKernel.READY).executed(3);
-    }
-
-    /** A process 0 that forks three children, which yield on and on at 8, and goes on at 20. */
-    private static Machine threeChildren(String name) {
-        Machine m = new Machine(name);
-        forkToYielders(m.at(0)).jump(4);
-        forkToYielders(m.at(4)).jump(12);
-        forkToYielders(m.at(12)).jump(20);
-        return m.at(8).put(Machine.YIELD).jump(8).at(20);
-    }
-
-    private static Machine forkToYielders(Machine m) {
-        return m.put(Machine.FORK, 1).put(Machine.ADD_NUMBER, 1, 0, 1).put(Machine.JUMP_IF_ZERO, 1, 0, 8);
-    }
-
-    private static void waitTakesTheSmallestEnded() {
-        Machine m = threeChildren("smallest ended").put(Machine.WAIT, 1, 2).put(Machine.YIELD).jump(20);
-        m.spawn(0, 0, 0).run(20, 20).state(0, TeachingKernel.WAITING).spot(0, 20);
-        m.parent(1, 0).parent(2, 0).parent(3, 0).state(1, TeachingKernel.READY);
-        m.kill(3, 33, true).kill(2, -22, true).state(0, TeachingKernel.WAITING);
-        m.run(2, 2).registers(0, 0, -22, 2, 0).state(2, TeachingKernel.FREE).state(3, TeachingKernel.ENDED).spot(3, 33);
-        m.parent(2, TeachingKernel.BAD).spot(2, TeachingKernel.BAD);
-        m.run(2, 2).registers(0, 0, 33, 3, 0).state(3, TeachingKernel.FREE).state(0, TeachingKernel.READY);
-        m.run(2, 2).state(0, TeachingKernel.WAITING).registers(0, 0, 33, 3, 0);
-        m.kill(1, 11, true).run(1, 1).registers(0, 0, 11, 1, 0).run(1, 1).registers(0, 0, -1, 1, 0);
-    }
-
-    private static void waitWithTheSameRegisterTwice() {
-        Machine m = threeChildren("same register").put(Machine.WAIT, 2, 2).put(Machine.YIELD).jump(21);
-        m.spawn(0, 0, 0).run(20, 20).kill(2, 99, true).run(3, 3).registers(0, 0, 4, 2, 0);
-    }
-
     private static void waitWaitsForItsOwnChildrenOnly() {
         Machine m = new Machine("own children").put(Machine.FORK, 1).put(Machine.ADD_NUMBER, 1, 0, 1);
         m.put(Machine.JUMP_IF_ZERO, 1, 0, 5).put(Machine.WAIT, 2, 3).put(Machine.END, 2);
@@ -120,34 +54,15 @@ public final class FamilyTest {
         m.run(80, 1).executed(11).output(-1, 0, -1, 1);
     }
 
-    private static void endFreesEndedChildrenAndLeavesTheOthers() {
-        Machine m = threeChildren("orphans").put(Machine.YIELD).jump(20);
-        m.spawn(0, 0, 0).run(20, 20).kill(2, 5, true).state(2, TeachingKernel.ENDED);
-        m.kill(0, 1, true).state(0, TeachingKernel.FREE).state(2, TeachingKernel.FREE);
-        m.state(1, TeachingKernel.READY).parent(1, -1).state(3, TeachingKernel.READY).parent(3, -1);
-        m.kill(1, 5, true).state(1, TeachingKernel.FREE).run(3, 3).state(3, TeachingKernel.READY);
-        m.spawn(8, 0, 0).parent(3, -1);
-    }
-
     private static void killInstruction() {
-        Machine m = threeChildren("kill").set(2, 2).put(Machine.KILL, 1, 2).put(Machine.YIELD);
+        Machine m = Machine.withChildren("kill").set(2, 2).put(Machine.KILL, 1, 2).put(Machine.YIELD);
         m.set(2, 4).put(Machine.KILL, 2, 2).put(Machine.YIELD).jump(25);
-        m.spawn(0, 0, 0).spawn(60, 0, 1).at(60).jump(60).run(40, 40);
+        m.spawn(0, 3, 0).spawn(60, 0, 1).run(70, 70);
         m.state(1, TeachingKernel.READY).state(2, TeachingKernel.ENDED).spot(2, -3).parent(2, 0);
         m.state(4, TeachingKernel.ENDED).spot(4, -3).registers(0, 0, 0, 0, 0).state(3, TeachingKernel.READY);
         Machine k = new Machine("killing one without a parent").set(1, 1).put(Machine.KILL, 2, 1).put(Machine.YIELD);
         k.spawn(0, 0, 0).spawn(0, 0, 1).run(1, 1).state(1, TeachingKernel.FREE).registers(0, 0, 1, 0, 0).executed(3);
         k.run(1, 1).state(0, TeachingKernel.FREE).executed(4).run(80, 0);
-    }
-
-    private static void killRefused() {
-        for (int rb : new int[] {-1, 6, 100, Integer.MIN_VALUE, Integer.MAX_VALUE, 0, 2, 5}) {
-            Machine m = new Machine("kill of " + rb).put(Machine.KILL, 1, 0).put(Machine.YIELD).at(9).jump(9);
-            m.spawn(0, rb, 0).spawn(9, 0, 1).run(1, 1).registers(0, rb, -1, 0, 0).state(0, TeachingKernel.READY);
-            m.state(1, TeachingKernel.READY).executed(2);
-        }
-        Machine e = threeChildren("kill of an ended one").set(2, 2).put(Machine.KILL, 1, 2).put(Machine.KILL, 2, 2);
-        e.put(Machine.YIELD).jump(23).spawn(0, 0, 0).run(40, 40).registers(0, 0, 0, -1, 0).spot(2, -3);
     }
 
     private static void killInTheQueue() {

@@ -1,4 +1,4 @@
-/** The instructions of one process: numbers, memory, jumps, output, ends (promises 4, 6, 8, 9, 12 to 14). */
+/** The instructions of one process: numbers, jumps, output, ends (promises 4, 6 to 8 and 12 to 14). */
 public final class InstructionsTest {
     private static final int MIN = Integer.MIN_VALUE;
     private static final int MAX = Integer.MAX_VALUE;
@@ -6,24 +6,15 @@ public final class InstructionsTest {
     public static void main(String[] args) {
         endHasTheResultOfItsRegister();
         numbers();
-        memoryEdges();
         jumps();
-        spotsOutside();
         ownNumberAndParent();
         outAddsInOrder();
         Checks.close();
     }
 
-    /** Forks, and lets the child go to 20; the parent yields on and on, so that the child stays to be seen. */
-    private static Machine withChild(String name) {
-        Machine m = new Machine(name).put(Machine.FORK, 3).put(Machine.ADD_NUMBER, 3, 0, 1);
-        m.put(Machine.JUMP_IF_ZERO, 3, 0, 20).put(Machine.YIELD).jump(3);
-        return m.at(20);
-    }
-
     private static void endHasTheResultOfItsRegister() {
         for (int a = 0; a < 4; a++) {
-            Machine m = withChild("end a " + a).set(1, 8).set(2, MIN).set(3, MAX).put(Machine.END, a, 1, 99);
+            Machine m = Machine.withChild("end a " + a).set(1, 8).set(2, MIN).set(3, MAX).put(Machine.END, a, 1, 99);
             int[] want = {7, 8, MIN, MAX};
             m.spawn(0, 7, 0).run(8, 8).state(1, TeachingKernel.ENDED).spot(1, want[a]).state(0, TeachingKernel.READY);
         }
@@ -55,36 +46,6 @@ public final class InstructionsTest {
         m.spawn(0, 3, 0).run(1, 1).register(0, 0, 36).run(1, 1).register(0, 0, 5).run(1, 1).register(0, 0, 0);
     }
 
-    private static void memoryEdges() {
-        int[][] rbAndN = {{0, 0}, {0, 31}, {31, 0}, {40, -9}, {-5, 5}, {-5, 36}, {MIN, MIN}, {MAX, MIN + 1}, {MAX, MIN + 32},
-            {0, -1}, {0, 32}, {-1, 0}, {32, 0}, {31, 1}, {MAX, MAX}, {MAX, 1}, {MIN, 0}, {MAX, MIN}, {MAX, MIN + 33}, {5, 64}};
-        for (int[] pair : rbAndN) {
-            int i = pair[0] + pair[1];
-            boolean inside = i >= 0 && i <= 31;
-            String name = "word " + pair[0] + " + " + pair[1];
-            Machine s = withChild("store at " + name).set(1, pair[0]).put(Machine.STORE, 0, 1, pair[1]).put(Machine.YIELD);
-            s.spawn(0, 55, 0).run(4, 4);
-            Machine l = withChild("load from " + name);
-            l.set(1, pair[0]).set(2, 66).put(Machine.LOAD, 2, 1, pair[1]).put(Machine.YIELD);
-            l.spawn(0, 55, 0).run(4, 4);
-            if (inside) {
-                s.state(1, TeachingKernel.READY).spot(1, 23).executed(9);
-                for (int w = 0; w < 32; w++) {
-                    s.word(1, w, w == i ? 55 : 0).word(0, w, 0);
-                }
-                l.state(1, TeachingKernel.READY).register(1, 2, 0).spot(1, 24).executed(10);
-            } else {
-                s.state(1, TeachingKernel.ENDED).spot(1, -1).executed(8);
-                l.state(1, TeachingKernel.ENDED).spot(1, -1).executed(9);
-            }
-        }
-        Machine m = new Machine("load what was stored").put(Machine.STORE, 0, 1, 17).set(0, 16);
-        m.put(Machine.LOAD, 0, 0, 1).put(Machine.OUT).put(Machine.END);
-        m.spawn(0, -8, 0).run(80, 2).output(-8).executed(5);
-        Machine k = new Machine("killed by its memory leaves no process").put(Machine.LOAD, 0, 0, -1);
-        k.spawn(0, 0, 0).run(80, 1).state(0, TeachingKernel.FREE).executed(1);
-    }
-
     private static void jumps() {
         for (int x : new int[] {0, 1, -1, MIN, MAX}) {
             int zero = x == 0 ? 40 : 1;
@@ -101,19 +62,6 @@ public final class InstructionsTest {
         Machine m = new Machine("jump " + op + " at " + x).put(op, 2, 1, 40).put(Machine.YIELD).at(40).put(Machine.YIELD);
         m.at(10).put(Machine.MOVE, 2, 0).jump(12).put(Machine.YIELD).jump(0);
         m.spawn(10, x, 0).run(2, 2).spot(0, goal + 1).register(0, 2, x).executed(6);
-    }
-
-    private static void spotsOutside() {
-        for (int far : new int[] {-1, 64, 65, 1000, MIN, MAX}) {
-            Machine m = withChild("jump to " + far).set(1, 4).jump(far);
-            m.spawn(0, 5, 0).run(3, 3).state(1, TeachingKernel.READY).spot(1, 21).executed(7);
-            m.run(1, 1).state(1, TeachingKernel.ENDED).spot(1, -4).executed(9).parent(1, 0);
-        }
-        Machine e = new Machine("over the end").at(61).set(1, 1).set(2, 2).set(3, 3);
-        e.spawn(61, 0, 0).run(1, 1).state(0, TeachingKernel.READY).spot(0, 64).registers(0, 0, 1, 2, 3).executed(3);
-        e.run(80, 1).state(0, TeachingKernel.FREE).executed(4);
-        Machine t = new Machine("over the end in one turn").at(63).set(1, 1);
-        t.spawn(63, 0, 0).run(80, 1).state(0, TeachingKernel.FREE).executed(2);
     }
 
     private static void ownNumberAndParent() {

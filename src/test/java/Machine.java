@@ -26,16 +26,50 @@ final class Machine {
     static final int PARENT_NUMBER = 23;
     static final int KILL = 24;
 
+    private static final int MOST_CALLS = 512;
+
     final String name;
     final TeachingKernel kernel = new TeachingKernel();
     private int next = 0;
+    private int calls = 0;
 
     Machine(String name) {
         this.name = name;
     }
 
+    /**
+     * Once it is spawned at 0, process 0 forks 1, which goes on at 20 within its first turn, and then only
+     * yields, so that how 1 ends stays to be seen. Code is put at 20 and behind.
+     */
+    static Machine withChild(String name) {
+        Machine m = new Machine(name).put(FORK, 3).put(ADD_NUMBER, 3, 0, 1).put(JUMP_IF_ZERO, 3, 0, 20);
+        return m.put(YIELD).jump(3).at(20);
+    }
+
+    /**
+     * Once it is spawned at 0 with x = how many, process 0 forks that many children, which yield on and on at
+     * 60, and goes on at 20 with r0 = 0. Code is put at 20 and behind.
+     */
+    static Machine withChildren(String name) {
+        Machine m = new Machine(name).put(FORK, 1).put(ADD_NUMBER, 1, 0, 1).put(JUMP_IF_ZERO, 1, 0, 60);
+        m.put(ADD_NUMBER, 0, 0, -1).put(JUMP_IF_NOT_ZERO, 0, 0, 0).jump(20);
+        return m.at(60).put(YIELD).jump(60).at(20);
+    }
+
     static int what(int op, int a, int b) {
         return op + 32 * a + 128 * b;
+    }
+
+    private void due(String call, long got, long want) {
+        calls++;
+        Checks.due(name + ": " + call, got, want);
+        if (calls == MOST_CALLS + 1) {
+            Checks.due(name + ": calls, of which the later ones are free", calls, MOST_CALLS);
+        }
+    }
+
+    private void due(String call, boolean got, boolean want) {
+        due(call, got ? 1L : 0L, want ? 1L : 0L);
     }
 
     Machine at(int spot) {
@@ -44,7 +78,7 @@ final class Machine {
     }
 
     Machine put(int op, int a, int b, int n) {
-        Checks.due(name + ": code at " + next, kernel.code(next, what(op, a, b), n), true);
+        due("code at " + next, kernel.code(next, what(op, a, b), n), true);
         next++;
         return this;
     }
@@ -70,37 +104,63 @@ final class Machine {
     }
 
     Machine spawn(int spot, int x, int number) {
-        Checks.due(name + ": spawn(" + spot + ", " + x + ")", kernel.spawn(spot, x), number);
+        due("spawn(" + spot + ", " + x + ")", kernel.spawn(spot, x), number);
         return this;
     }
 
     Machine run(int n, int turns) {
-        Checks.due(name + ": run(" + n + ")", kernel.run(n), turns);
+        due("run(" + n + ")", kernel.run(n), turns);
         return this;
     }
 
     Machine kill(int p, int result, boolean done) {
-        Checks.due(name + ": kill(" + p + ", " + result + ")", kernel.kill(p, result), done);
+        due("kill(" + p + ", " + result + ")", kernel.kill(p, result), done);
         return this;
     }
 
+    Machine code(int i, int what, int n, boolean done) {
+        due("code(" + i + ", " + what + ", " + n + ")", kernel.code(i, what, n), done);
+        return this;
+    }
+
+    Machine level(int k, boolean done) {
+        due("level(" + k + ")", kernel.level(k), done);
+        return this;
+    }
+
+    Machine free(int p) {
+        return state(p, TeachingKernel.FREE).spot(p, TeachingKernel.BAD).parent(p, TeachingKernel.BAD);
+    }
+
+    Machine ready(int p, int spot) {
+        return state(p, TeachingKernel.READY).spot(p, spot);
+    }
+
+    Machine waiting(int p, int spot) {
+        return state(p, TeachingKernel.WAITING).spot(p, spot);
+    }
+
+    Machine ended(int p, int result) {
+        return state(p, TeachingKernel.ENDED).spot(p, result);
+    }
+
     Machine state(int p, int want) {
-        Checks.due(name + ": state(" + p + ")", kernel.state(p), want);
+        due("state(" + p + ")", kernel.state(p), want);
         return this;
     }
 
     Machine spot(int p, int want) {
-        Checks.due(name + ": spot(" + p + ")", kernel.spot(p), want);
+        due("spot(" + p + ")", kernel.spot(p), want);
         return this;
     }
 
     Machine parent(int p, int want) {
-        Checks.due(name + ": parent(" + p + ")", kernel.parent(p), want);
+        due("parent(" + p + ")", kernel.parent(p), want);
         return this;
     }
 
     Machine register(int p, int r, int want) {
-        Checks.due(name + ": register(" + p + ", " + r + ")", kernel.register(p, r), want);
+        due("register(" + p + ", " + r + ")", kernel.register(p, r), want);
         return this;
     }
 
@@ -109,12 +169,12 @@ final class Machine {
     }
 
     Machine word(int p, int i, int want) {
-        Checks.due(name + ": word(" + p + ", " + i + ")", kernel.word(p, i), want);
+        due("word(" + p + ", " + i + ")", kernel.word(p, i), want);
         return this;
     }
 
     Machine descriptor(int p, int d, int want) {
-        Checks.due(name + ": descriptor(" + p + ", " + d + ")", kernel.descriptor(p, d), want);
+        due("descriptor(" + p + ", " + d + ")", kernel.descriptor(p, d), want);
         return this;
     }
 
@@ -123,19 +183,29 @@ final class Machine {
     }
 
     Machine pipe(int k, int want) {
-        Checks.due(name + ": pipe(" + k + ")", kernel.pipe(k), want);
+        due("pipe(" + k + ")", kernel.pipe(k), want);
         return this;
     }
 
     Machine executed(long want) {
-        Checks.due(name + ": executed()", kernel.executed(), want);
+        due("executed()", kernel.executed(), want);
+        return this;
+    }
+
+    Machine printed(int want) {
+        due("printed()", kernel.printed(), want);
+        return this;
+    }
+
+    Machine outputAt(int k, int want) {
+        due("output(" + k + ")", kernel.output(k), want);
         return this;
     }
 
     Machine output(int... want) {
-        Checks.due(name + ": printed()", kernel.printed(), want.length);
+        printed(want.length);
         for (int k = 0; k < want.length && k < 32; k++) {
-            Checks.due(name + ": output(" + k + ")", kernel.output(k), want[k]);
+            outputAt(k, want[k]);
         }
         return this;
     }

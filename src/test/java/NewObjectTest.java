@@ -12,17 +12,6 @@ public final class NewObjectTest {
             Checks.due("output(" + k + ")", m.kernel.output(k), 0);
         }
         m.run(80, 0).executed(0);
-        allCodeIsEnd();
         Checks.close();
-    }
-
-    private static void allCodeIsEnd() {
-        Machine m = new Machine("new code").put(Machine.FORK, 1);
-        m.put(Machine.WAIT, 2, 3).put(Machine.OUT, 2).jump(0);
-        for (int spot = 4; spot < 64; spot++) {
-            m.kernel.spawn(spot, 7);
-            m.run(80, 1).state(0, TeachingKernel.FREE);
-        }
-        m.executed(60).output();
     }
 }

