@@ -407,6 +407,7 @@ public final class CallEdgesTest {
         w.executed(0).spawn(0, 0, 0).run(80, 1).executed(1).run(80, 0).executed(1);
     }
 
+    /** "The number of instructions that all processes have executed": a kill from outside is none, and takes none back. */
     private static void executedCountsNoKillFromOutside() {
         six("executed: kill").run(6, 6).executed(18).kill(0, 0, true).kill(5, 0, true).executed(18).run(4, 4).executed(30);
     }

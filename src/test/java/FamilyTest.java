@@ -1,7 +1,8 @@
-/** Forks, waits, ends and kills in ordinary runs (promises 5 to 10, 12, 15 and 17). */
+/** Forks, waits, ends and kills in ordinary runs (promises 5 to 10, 12 and 15 to 17). */
 public final class FamilyTest {
     public static void main(String[] args) {
         forkCopiesAll();
+        everyCopyHasItsOwnMemory();
         forkTakesTheSmallestFree();
         waitWaitsForItsOwnChildrenOnly();
         waitIsCountedWhenItIsExecuted();
@@ -25,6 +26,27 @@ public final class FamilyTest {
         m.run(1, 1).word(1, 1, -1).word(0, 1, 0).descriptors(1, 0, 2, 2, 0).descriptors(0, 1, 2, 2, 0);
         m.run(1, 1).word(1, 1, -1).word(0, 1, 1).descriptors(0, 0, 2, 2, 0).pipe(0, 1);
         m.executed(12);
+    }
+
+    /** Four processes of three generations store words of their own, while the level changes between the turns. */
+    private static void everyCopyHasItsOwnMemory() {
+        int[][] levels = {{0}, {1}, {2}, {0, 1}, {0, 2}, {1, 2}, {2, 1, 0}};
+        for (int[] order : levels) {
+            Machine m = new Machine("own memory, levels from " + order[0]).put(Machine.STORE, 0, 3, 0).put(Machine.FORK, 1);
+            m.put(Machine.FORK, 1).put(Machine.OWN_NUMBER, 2).put(Machine.ADD_NUMBER, 2, 0, 1).put(Machine.STORE, 2, 2, 8);
+            m.put(Machine.STORE, 2, 3, 31).put(Machine.YIELD).jump(7).spawn(0, 70, 0);
+            for (int turn = 0; turn < 20; turn++) {
+                m.level(order[turn % order.length], true).run(1, 1);
+            }
+            m.parent(1, 0).parent(2, 0).parent(3, 1);
+            for (int p = 0; p < 4; p++) {
+                for (int i = 0; i < 32; i++) {
+                    m.word(p, i, i == 0 ? 70 : i == p + 9 || i == 31 ? p + 1 : 0);
+                }
+            }
+            m.kill(1, 0, true).kill(0, 0, true).spawn(7, 0, 0).word(0, 0, 0).word(0, 9, 0).word(0, 31, 0);
+            m.level(order[0], true).word(2, 0, 70).word(2, 11, 3).word(2, 31, 3).word(3, 0, 70).word(3, 12, 4).word(3, 31, 4);
+        }
     }
 
     private static void forkTakesTheSmallestFree() {

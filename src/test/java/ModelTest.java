@@ -6,10 +6,12 @@ public final class ModelTest {
     private static final int MOST_CALLS = 512;
     private static final int[] EDGES = {Integer.MIN_VALUE, -1000, -4, -3, -2, -1, 64, 512, 1 << 30, Integer.MAX_VALUE};
     private static final int[] SYSTEM = {13, 13, 14, 15, 15, 16, 16, 17, 17, 18, 19, 20, 24};
+    private static final int[] MEMORY = {1, 6, 8, 9, 9, 9, 9, 9, 9, 11, 13, 13, 20, 22, 23};
 
     private final Random random;
     private final String name;
     private final boolean lively;
+    private final boolean memory;
     private final TeachingKernel kernel = new TeachingKernel();
     private final Model model = new Model();
     private int calls = 0;
@@ -18,6 +20,7 @@ public final class ModelTest {
         random = new Random(seed);
         name = "seed " + seed + ", call ";
         lively = seed % 2 == 0;
+        memory = seed % 4 == 1;
     }
 
     public static void main(String[] args) {
@@ -66,14 +69,21 @@ public final class ModelTest {
     }
 
     private void code(int i, int length) {
-        int op = random.nextInt(3) == 0 ? random.nextInt(25) : SYSTEM[random.nextInt(SYSTEM.length)];
-        if (lively && op == 0) {
+        int[] ops = memory ? MEMORY : SYSTEM;
+        int op = random.nextInt(memory ? 24 : 3) == 0 ? random.nextInt(25) : ops[random.nextInt(ops.length)];
+        if ((lively || memory) && op == 0 || memory && i == length - 1) {
             op = 11;
         }
         boolean jump = op >= 10 && op <= 12;
-        int n = jump ? draw(0, length - 1) : draw(-2, 5);
-        int what = random.nextInt(40) == 0 ? draw(-5, 520) : op + 32 * random.nextInt(16);
+        boolean place = memory && (op == 8 || op == 9);
+        int n = jump ? draw(0, length - 1) : place ? draw(0, 31) : draw(-2, 5);
+        int what = random.nextInt(40) == 0 ? draw(-5, 520) : op + 32 * registers();
         due("code(" + i + ", " + what + ", " + n + ")", kernel.code(i, what, n), model.code(i, what, n));
+    }
+
+    /** a + 4 * b; for runs on memory r3 mostly stays 0 and is b, so that most memory words are there. */
+    private int registers() {
+        return memory && random.nextInt(30) != 0 ? random.nextInt(3) + 4 * 3 : random.nextInt(16);
     }
 
     private void act(int length) {
@@ -104,7 +114,7 @@ public final class ModelTest {
         int p = draw(0, 5);
         int i = draw(0, 3);
         int w = draw(0, random.nextBoolean() ? 31 : 9);
-        switch (random.nextInt(12)) {
+        switch (memory && random.nextBoolean() ? 6 : random.nextInt(12)) {
             case 0, 1 -> due("state(" + p + ")", kernel.state(p), model.state(p));
             case 2 -> due("spot(" + p + ")", kernel.spot(p), model.spot(p));
             case 3 -> due("parent(" + p + ")", kernel.parent(p), model.parent(p));

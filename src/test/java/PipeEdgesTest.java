@@ -12,6 +12,7 @@ public final class PipeEdgesTest {
         pipeIntoOneRegister();
         pipeIsThereByOneEnd();
         pipeIsEmptyAtFirst();
+        threePipesFullAtOnce();
         readOutside();
         readOfNoReadingEnd();
         readOfWords();
@@ -122,6 +123,21 @@ public final class PipeEdgesTest {
         Machine m = onePipe("at first none").put(Machine.WRITE, 0, 2).put(Machine.WRITE, 0, 2);
         m.put(Machine.CLOSE, 3, 2).put(Machine.CLOSE, 3, 1).put(Machine.YIELD).put(Machine.PIPE, 1, 2).put(Machine.READ, 3, 1);
         m.spawn(0, 8, 0).run(1, 1).pipe(0, 2).run(1, 1).pipe(0, -1).run(1, 1).pipe(0, 0).waiting(0, 7);
+    }
+
+    /** "There are 3 PIPES, 0 to 2", each with "a list of up to 4 words" of its own. */
+    private static void threePipesFullAtOnce() {
+        Machine m = onePipe("three full pipes");
+        for (int i = 0; i < 4; i++) {
+            m.put(Machine.WRITE, 0, 2).put(Machine.ADD_NUMBER, 0, 0, 1);
+        }
+        m.put(Machine.YIELD);
+        for (int i = 0; i < 4; i++) {
+            m.put(Machine.READ, 3, 1).put(Machine.OUT, 3);
+        }
+        m.put(Machine.YIELD).spawn(0, 10, 0).spawn(0, 20, 1).spawn(0, 30, 2);
+        m.run(12, 12).pipe(0, 4).pipe(1, 4).pipe(2, 4).run(9, 9).pipe(0, 0).pipe(1, 0).pipe(2, 0);
+        m.output(10, 20, 30, 11, 12, 21, 22, 31, 32, 13, 23, 33);
     }
 
     /** "16 READ: ... (or rb is not from 0 to 3): ra = -1" */
@@ -261,6 +277,10 @@ public final class PipeEdgesTest {
         o.put(Machine.WRITE, 0, 2).at(40).put(Machine.PIPE, 1, 2).put(Machine.YIELD).jump(41);
         o.spawn(0, 8, 0).spawn(40, 8, 1).run(3, 3).descriptors(1, 1, 2, 0, 0).descriptors(2, 3, 4, 0, 0);
         o.run(3, 3).ended(2, -2).pipe(0, 0).pipe(1, -1);
+        Machine w = onePipe("17: no reading end, another's writing end").put(Machine.CLOSE, 3, 1).put(Machine.FORK, 3);
+        w.put(Machine.ADD_NUMBER, 3, 0, 1).put(Machine.JUMP_IF_ZERO, 3, 0, 20).put(Machine.YIELD).jump(5);
+        w.at(20).put(Machine.WRITE, 0, 2).put(Machine.YIELD);
+        w.spawn(0, 8, 0).run(2, 2).ended(1, -2).descriptors(0, 0, 2, 0, 0).pipe(0, 0);
     }
 
     /** "if no descriptor is the pipe's reading end" comes before "if the pipe has 4 words" */

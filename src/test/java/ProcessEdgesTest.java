@@ -13,6 +13,7 @@ public final class ProcessEdgesTest {
         waitWithLivingChildrenOnly();
         waitWithTheSameRegister();
         waitForTheSmallestEnded();
+        waitForTheFirstProcess();
         noParent();
         killOutside();
         killItself();
@@ -118,6 +119,14 @@ public final class ProcessEdgesTest {
         m.run(3, 3).registers(0, 0, 6, MAX, 5).free(5).run(3, 3).waiting(0, 20).registers(0, 0, 6, MAX, 5);
     }
 
+    /** "14 WAIT: if it has ended children ... if it has no children ... else it waits": process 0 is the child. */
+    private static void waitForTheFirstProcess() {
+        Machine m = new Machine("14: process 0").put(Machine.FORK, 1).put(Machine.ADD_NUMBER, 1, 0, 1);
+        m.put(Machine.JUMP_IF_ZERO, 1, 0, 60).put(Machine.WAIT, 2, 3).put(Machine.YIELD).jump(4).set(3, 9).jump(0);
+        busy(m, 0, 0).spawn(6, 5, 1).kill(0, 0, true).run(4, 4).parent(0, 1).waiting(1, 3).registers(1, 5, 1, 0, 9);
+        m.kill(0, 7, true).ended(0, 7).run(1, 1).registers(1, 5, 1, 7, 0).free(0).ready(1, 5);
+    }
+
     /** "23 ra = its parent's number, -1 if none" */
     private static void noParent() {
         Machine m = new Machine("23: none").set(1, 9).put(Machine.PARENT_NUMBER, 1).put(Machine.YIELD);
@@ -127,22 +136,23 @@ public final class ProcessEdgesTest {
         o.spawn(3, 0, 0).parent(1, -1).run(1, 1).registers(1, 5, 0, -1, 0).parent(1, -1);
     }
 
+    /** Processes 0 and 1 are busy; 2 has 9 in r1 and, in its first turn, executes a KILL of rb into it. */
     private static Machine kills(String name, int rb) {
-        Machine m = new Machine("24: " + name + " " + rb).put(Machine.KILL, 1, 0).put(Machine.YIELD).jump(1);
-        return busy(m.at(20), 0, 1).spawn(0, rb, 2);
+        Machine m = new Machine("24: " + name + " " + rb).set(1, 9).put(Machine.KILL, 1, 0).put(Machine.YIELD).jump(2);
+        return busy(m, 0, 1).spawn(0, rb, 2);
     }
 
     /** "24: if rb is not from 0 to 5: ra = -1" */
     private static void killOutside() {
         for (int rb : new int[] {-1, 6, 7, -6, 64, MIN, MAX, 1 << 30}) {
-            Machine m = kills("not from 0 to 5", rb).run(3, 3).registers(2, rb, -1, 0, 0).ready(2, 2).executed(4);
+            Machine m = kills("not from 0 to 5", rb).run(3, 3).registers(2, rb, -1, 0, 0).ready(2, 3).executed(5);
             m.ready(0, 61).ready(1, 61).free(3).free(4).free(5);
         }
     }
 
     /** "24: or itself: ra = -1" */
     private static void killItself() {
-        kills("itself", 2).run(3, 3).registers(2, 2, -1, 0, 0).ready(2, 2).executed(4);
+        kills("itself", 2).run(3, 3).registers(2, 2, -1, 0, 0).ready(2, 3).executed(5);
         Machine m = new Machine("24: itself, found out").put(Machine.OWN_NUMBER, 3).put(Machine.KILL, 3, 3).put(Machine.YIELD);
         m.spawn(0, 5, 0).run(1, 1).registers(0, 5, 0, 0, -1).ready(0, 3);
     }
@@ -150,9 +160,9 @@ public final class ProcessEdgesTest {
     /** "24: or free: ra = -1" */
     private static void killAFreeOne() {
         for (int rb = 3; rb < 6; rb++) {
-            kills("free", rb).run(3, 3).registers(2, rb, -1, 0, 0).ready(2, 2).free(rb).executed(4);
+            kills("free", rb).run(3, 3).registers(2, rb, -1, 0, 0).ready(2, 3).free(rb).executed(5);
         }
-        Machine m = kills("free again", 1).kill(1, 4, true).run(2, 2).registers(2, 1, -1, 0, 0).free(1).executed(3);
+        Machine m = kills("free again", 1).kill(1, 4, true).run(2, 2).registers(2, 1, -1, 0, 0).free(1).executed(4);
         m.ready(0, 61);
     }
 
@@ -165,7 +175,7 @@ public final class ProcessEdgesTest {
 
     /** "24 KILL: process rb ends with the result -3, ra = 0": 0 and 5 can be killed, one that waits too. */
     private static void killTheFirstAndTheLast() {
-        kills("the first one,", 0).run(3, 3).registers(2, 0, 0, 0, 0).free(0).ready(1, 61).executed(4);
+        kills("the first one,", 0).run(3, 3).registers(2, 0, 0, 0, 0).free(0).ready(1, 61).executed(5);
         Machine m = new Machine("24: the last one").put(Machine.FORK, 1).put(Machine.KILL, 2, 1).put(Machine.YIELD);
         busy(m.spawn(0, 8, 0), 1, 4).run(1, 1).registers(0, 8, 5, 0, 0).ended(5, -3).parent(5, 0).executed(3);
         m.run(4, 4).run(1, 1).free(0).free(5);
@@ -249,7 +259,7 @@ public final class ProcessEdgesTest {
         }
     }
 
-    /** "first every waiting process, the smallest first, that would not wait at its instruction now, ... joins the queue at its end" */
+    /** "first every waiting process, the smallest first, that would not wait at its instruction now, ... joins the queue" */
     private static void wokenTheSmallestFirst() {
         Machine m = new Machine("woken").put(Machine.FORK, 3).put(Machine.WAIT, 1, 2).put(Machine.OUT, 0).put(Machine.END);
         m.at(60).put(Machine.OUT, 0).put(Machine.YIELD).jump(60);
