@@ -7,6 +7,7 @@ public final class CallEdgesTest {
 
     public static void main(String[] args) {
         newCodeIsAllEnd();
+        newCodeEndsWithARegister();
         codeAtNoSpot();
         codeAtTheFirstAndTheLastSpot();
         codeOfAWhatOutside();
@@ -62,6 +63,14 @@ public final class CallEdgesTest {
         Machine m = new Machine("new code");
         for (int spot = 0; spot < 64; spot++) {
             m.spawn(spot, 7, 0).run(2, 1).state(0, TeachingKernel.FREE).executed(spot + 1);
+        }
+    }
+
+    /** "at first all END", "0 END: ends with the result ra": with all registers alike it is the same, whichever a is. */
+    private static void newCodeEndsWithARegister() {
+        for (int spot = 24; spot < 64; spot++) {
+            Machine m = Machine.withChild("new code at " + spot).set(1, 7).set(2, 7).set(3, 7).jump(spot);
+            m.spawn(0, 7, 0).run(6, 6).ended(1, 7).parent(1, 0);
         }
     }
 

@@ -46,8 +46,13 @@ public final class ModelTest {
 
     private void drawAll() {
         int length = 8 + random.nextInt(57);
-        for (int i = 0; i < length; i++) {
-            code(i, length);
+        for (int i = 0; i < 64; i++) {
+            if (i < length) {
+                code(i, length);
+            } else {
+                // The document does not say the a of the ENDs that are there at first, so all of them are replaced.
+                put(i, 32 * random.nextInt(16), draw(-2, 5));
+            }
         }
         while (calls < MOST_CALLS - 40) {
             act(length);
@@ -77,7 +82,13 @@ public final class ModelTest {
         boolean jump = op >= 10 && op <= 12;
         boolean place = memory && (op == 8 || op == 9);
         int n = jump ? draw(0, length - 1) : place ? draw(0, 31) : draw(-2, 5);
-        int what = random.nextInt(40) == 0 ? draw(-5, 520) : op + 32 * registers();
+        put(i, op + 32 * registers(), n);
+        if (random.nextInt(40) == 0) {
+            put(i, draw(-5, 520), n);
+        }
+    }
+
+    private void put(int i, int what, int n) {
         due("code(" + i + ", " + what + ", " + n + ")", kernel.code(i, what, n), model.code(i, what, n));
     }
 
